@@ -42,14 +42,14 @@ public final class NightLetIn {
         if (!isCell(xy) || !isWithin(night, 0, MOST_NIGHT)) {
             return BAD;
         }
-        return now.barns >= MOST_BARNS ? FULL : now.addBarn(xy, night);
+        return now.addBarn(xy, night);
     }
 
     public int boy(int needs) {
         if (!Land.allowsNeeds(needs)) {
             return BAD;
         }
-        return now.boys >= MOST_BOYS ? FULL : now.addBoy(needs, NONE);
+        return now.addBoy(needs, NONE);
     }
 
     public int boys(int shelf, int i, int n) {
@@ -82,7 +82,7 @@ public final class NightLetIn {
         if (!isCell(xy) || !isWithin(bright, 0, MOST_BRIGHT)) {
             return BAD;
         }
-        return now.lamps >= MOST_LAMPS ? FULL : now.addLamp(xy, bright);
+        return now.addLamp(xy, bright);
     }
 
     public int mend(int number, int what, int v) {
@@ -112,7 +112,7 @@ public final class NightLetIn {
         if (!isWithin(letter, 0, 255)) {
             return BAD;
         }
-        return tape.isFull() ? FULL : tape.add(letter);
+        return tape.add(letter);
     }
 
     public int law() {
@@ -495,11 +495,11 @@ public final class NightLetIn {
     }
 
     public int undo() {
-        return changes.done > 0 ? changes.takeBack(now) : STATE;
+        return changes.takeBack(now);
     }
 
     public int redo() {
-        return changes.done < changes.kept ? changes.bringBack(now) : STATE;
+        return changes.bringBack(now);
     }
 
     // ---- acts, shelves
@@ -508,7 +508,7 @@ public final class NightLetIn {
         if (!isWithin(kind, 0, Acts.KINDS - 1)) {
             return BAD;
         }
-        return acts.bodies >= Acts.MOST ? FULL : acts.add(kind);
+        return acts.add(kind);
     }
 
     public int act(int body, int act, int x) {
@@ -862,15 +862,12 @@ public final class NightLetIn {
         int stepped;
         private int at;
 
-        boolean isFull() {
-            return length >= MOST;
-        }
-
         int add(int letter) {
-            if (length < MOST) {
-                bytes[length] = letter;
-                length++;
+            if (length >= MOST) {
+                return FULL;
             }
+            bytes[length] = letter;
+            length++;
             return length;
         }
 
@@ -1325,7 +1322,7 @@ public final class NightLetIn {
         private final int[] was = new int[MOST];
         private final int[] became = new int[MOST];
         int done;
-        int kept;
+        private int kept;
 
         void add(int itsNumber, int itsWhat, int itWas, int itBecame) {
             if (done >= MOST) {
@@ -1347,19 +1344,23 @@ public final class NightLetIn {
             done = MOST - 1;
         }
 
+        /** Undoes the latest: how many may still be undone. */
         int takeBack(Land land) {
-            if (done > 0) {
-                done--;
-                land.setNumber(number[done], what[done], was[done]);
+            if (done <= 0) {
+                return STATE;
             }
+            done--;
+            land.setNumber(number[done], what[done], was[done]);
             return done;
         }
 
+        /** Does the latest that was undone again: how many may still be. */
         int bringBack(Land land) {
-            if (done < kept) {
-                land.setNumber(number[done], what[done], became[done]);
-                done++;
+            if (done >= kept) {
+                return STATE;
             }
+            land.setNumber(number[done], what[done], became[done]);
+            done++;
             return kept - done;
         }
     }
