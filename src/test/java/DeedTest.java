@@ -192,6 +192,32 @@ public final class DeedTest {
     x.undo();
     x.mend(0, 0, 99);
     Due.is("46 still 40", 40, x.count(4));
+    mixedForty();
+  }
+
+  /** Changes of unlike numbers, of which the oldest are dropped, undone and done again one by one. */
+  private static void mixedForty() {
+    NightLetIn x = new NightLetIn();
+    for (int i = 0; i < 3; i++) {
+      x.barn(i, 50);
+      x.boy(5);
+      x.lamp(i, 5);
+    }
+    int[][] told = new int[55][];
+    for (int i = 0; i < told.length; i++) {
+      int number = i % 3, what = i * 5 % 7;
+      int v = what == 4 ? (x.of(number, 4) + 2) % 3 : x.of(number, what) + 1;
+      told[i] = new int[] {number, what, x.mend(number, what, v), v};
+    }
+    for (int i = told.length - 1; i >= 15; i--) {
+      Due.is("35 of mixed ones", i - 15, x.undo());
+      Due.is("35 change " + i, told[i][2], x.of(told[i][0], told[i][1]));
+    }
+    Due.is("35 the oldest are gone", NightLetIn.STATE, x.undo());
+    for (int i = 15; i < told.length; i++) {
+      Due.is("36 of mixed ones", told.length - 1 - i, x.redo());
+      Due.is("36 change " + i, told[i][3], x.of(told[i][0], told[i][1]));
+    }
   }
 
   private static void undoAndDeeds() {

@@ -250,6 +250,9 @@ public final class LandTest {
     fault("!(((((a)))))*!(((((b)))))", -1);
     fault("!!!!!!a*!!!!!!b+------l", -1);
     fault("!!!!!!a*!!!!!!!b", 14);
+    fault("a?!!!!!!b", -1);
+    fault("a?!!!!!!!b", 8);
+    fault("!!!!!!a;!!!!!!!b", 14);
     fault("((((((a", 7);
     fault("(((a))", 6);
     StringBuilder longest = new StringBuilder("a");
@@ -312,6 +315,7 @@ public final class LandTest {
     value("50+(1<2)", 51);
     value("50+(2<2)", 50);
     value("50+(2=2)", 51);
+    value("50+(2=3)", 50);
     value("50+(3>2)", 51);
     value("50+(2>2)", 50);
     value("50+!0", 51);
@@ -321,6 +325,7 @@ public final class LandTest {
     value("50+!0*9", 59);
     value("1+2<4&3>2", 1);
     value("9999*9999*9999*9999/9999/9999", 10);
+    value("0|1?0|7;80", 1);
     value("0?70;80", 80);
     value("7?70;80", 70);
     value("-7?70;80", 70);
@@ -330,6 +335,13 @@ public final class LandTest {
     value("a>50?a-l;b=5?1", 57);
     value("70;80", 70);
     value("b<7?a-l-t/3;a-l*n", 56);
+    StringBuilder longest = new StringBuilder("-a");
+    while (longest.length() < 120) longest.append("+2");
+    value(longest.toString(), 59 * 2 - 60);
+    StringBuilder lines = new StringBuilder("!a?9");
+    while (lines.length() < 116) lines.append(";0?8");
+    value(lines + ";1?7", 7);
+    value("1|0&1<0+1*((((((1|0&1<0+1*2))))))", 1);
   }
 
   private static void lawStays() {

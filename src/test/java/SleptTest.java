@@ -91,6 +91,13 @@ public final class SleptTest {
     x.row(0, 0, 0);
     Due.is("24 any would do", 0, x.howBad(0, 0));
     Due.is("24 the latch is as it was", 1, x.of(0, 2));
+    NightLetIn y = new NightLetIn();
+    y.barn(0, 10);
+    Due.boyIn(y, 2, 0);
+    Due.row(y, 0, 0, 1, 0);
+    Due.is("24 the worst", 9, y.howBad(0, 0));
+    y.mend(0, 3, 1);
+    Due.is("24 worse than can be", NightLetIn.NOT, y.howBad(0, 0));
   }
 
   private static void thawed() {

@@ -281,6 +281,27 @@ public final class ThoughtTest {
     Due.is("17 who needs nothing", 1, x.deal(0, -1));
     Due.is("17 what it has does not count", 99, x.of(0, 0));
     Due.is("17 no barn", NightLetIn.BAD, x.deal(5, 2));
+    dealToAll();
+  }
+
+  private static void dealToAll() {
+    NightLetIn x = new NightLetIn();
+    for (int barn = 0; barn < 5; barn++) x.barn(barn, 0);
+    int[] needs = {30, 2, 3, 5, 7, 8, 9, 1};
+    int[] lies = {0, 1, 2, 3, 3, 4, 4, 1};
+    for (int boy = 0; boy < 8; boy++) Due.boyIn(x, needs[boy], lies[boy]);
+    int[] gets = {30, 4, 3, 14, 18};
+    for (int v = 69; v <= 99; v += 30) {
+      Due.is("17 all eight", 8, x.deal(v, -1));
+      for (int barn = 0; barn < 5; barn++) Due.is("17 barn " + barn, gets[barn], x.deal(v, barn));
+    }
+    Due.is("17 one too few", 7, x.deal(68, -1));
+    Due.is("17 the dearest is left out", 0, x.deal(68, 0));
+    Due.is("17 the others", 18, x.deal(68, 4));
+    Due.is("17 seven", 7, x.deal(39, -1));
+    Due.is("17 six", 6, x.deal(38, -1));
+    Due.is("17 six: least to the first", 2, x.deal(38, 1));
+    Due.is("17 six: then all they need", 18, x.deal(38, 4));
   }
 
   private static void nothingChanges() {
