@@ -987,6 +987,7 @@ public final class NightLetIn {
 
     /** The law in force, by the steps that a text gave. */
     private static final class Law {
+        /** Enough: within each of six brackets, and outside, five levels of signs can wait for what is behind them. */
         private static final int MOST_PENDING = 64;
 
         private final int[] steps = new int[Reader.MOST_STEPS];
