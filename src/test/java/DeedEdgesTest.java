@@ -443,7 +443,9 @@ public final class DeedEdgesTest {
   /** "LET OUT all of one (NIGHT 0)". */
   private static void letOutAll() {
     NightLetIn x = land();
-    for (int barn : new int[] {Integer.MIN_VALUE, -1, 2, Integer.MAX_VALUE}) Due.is("barn " + barn, BAD, x.letOut(barn));
+    for (int barn : new int[] {Integer.MIN_VALUE, -1, 2, Integer.MAX_VALUE}) {
+      Due.is("barn " + barn, BAD, x.letOut(barn));
+    }
     Due.is("all", 24, x.letOut(0));
     Due.is("none is left", 0, x.of(0, 0));
     Due.is("none to let out", 0, x.letOut(0));

@@ -141,7 +141,9 @@ public final class ShelfEdgesTest {
     NightLetIn x = bodies();
     Due.is("no act yet", BAD, x.trace(0));
     x.act(5, 3, 2);
-    for (int i : new int[] {Integer.MIN_VALUE, -1, 10, 23, 24, Integer.MAX_VALUE}) Due.is("place " + i, BAD, x.trace(i));
+    for (int i : new int[] {Integer.MIN_VALUE, -1, 10, 23, 24, Integer.MAX_VALUE}) {
+      Due.is("place " + i, BAD, x.trace(i));
+    }
     Due.is("the last", 1, x.trace(9));
   }
 
