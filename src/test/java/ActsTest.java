@@ -29,22 +29,25 @@ public final class ActsTest {
 
   /** Each act of each kind, held against Java's own classes. */
   private static void act() {
+    for (int v : new int[] {0, 1, 5, -7, 1 << 30, Integer.MAX_VALUE, Integer.MIN_VALUE}) actsWith(v);
     NightLetIn x = new NightLetIn();
-    Due.is("38 no body", 0, x.act(0, 0, 5));
-    int[] xs = {0, 1, 5, -7, 1 << 30, Integer.MAX_VALUE, Integer.MIN_VALUE};
-    List<Integer> ran = new ArrayList<>();
-    for (int n = 0; n < 40; n++) {
-      x.body(n % 8);
-      Kinds.Dark dark = Kinds.make(n % 8, n, ran);
-      for (int v : xs) {
-        int[] want = {dark.lies(v), dark.turns(v), dark.goes(v), dark.tells(v)};
-        for (int act = 0; act < 4; act++) Due.is("38 act " + act + " of " + n, want[act], x.act(n, act, v));
-      }
-    }
+    Due.is("38 no body yet", 0, x.act(0, 0, 5));
+    for (int n = 0; n < 40; n++) x.body(n % 8);
     Due.is("38 no body", 0, x.act(-1, 0, 5));
     Due.is("38 no body", 0, x.act(40, 0, 5));
     Due.is("38 no act", 0, x.act(1, -1, 5));
     Due.is("38 no act", 0, x.act(1, 4, 5));
+  }
+
+  private static void actsWith(int v) {
+    NightLetIn x = new NightLetIn();
+    List<Integer> ran = new ArrayList<>();
+    for (int n = 0; n < 40; n++) {
+      x.body(n % 8);
+      Kinds.Dark dark = Kinds.make(n % 8, n, ran);
+      int[] want = {dark.lies(v), dark.turns(v), dark.goes(v), dark.tells(v)};
+      for (int act = 0; act < 4; act++) Due.is("38 act " + act + " of " + n, want[act], x.act(n, act, v));
+    }
   }
 
   private static void trace() {

@@ -353,8 +353,8 @@ public final class LetOutEdgesTest {
 
   /** "where one first is at its hour's end where the dark is then". */
   private static void meetFirst() {
-    NightLetIn x = kept();
     for (int cell = 0; cell < 100; cell++) {
+      NightLetIn x = kept();
       int want = firstMeeting(x, cell);
       Due.is("hours from " + cell, want, x.meet(0, cell, 0));
       Due.is("cell from " + cell, x.where(0, want), x.meet(0, cell, 1));

@@ -7,7 +7,7 @@ import java.util.Random;
 
 /** Runs of drawn calls (the seeds are fixed) on the program and on NightModel: every answer must be the same. */
 public final class ModelTest {
-  private static final int RUNS = 400, CALLS = 500;
+  private static final int RUNS = 400, CALLS = 500, MOST_CALLS = 512;
 
   private final Random random;
   private final NightLetIn real = new NightLetIn();
@@ -69,7 +69,7 @@ public final class ModelTest {
     int shelf = random.nextInt(6), size = random.nextInt(9);
     call("row", shelf, 0, 0);
     int[] who = new int[size];
-    for (int d = 0; d < size; d++) who[d] = real.sleeps(shelf, d);
+    for (int d = 0; d < size; d++) who[d] = (int) call("sleeps", shelf, d);
     call("row", shelf, 0, size);
     for (int d = 0; d < size; d++) call("put", shelf, d, who[d]);
     if (size > 0 && random.nextInt(4) == 0) call("put", shelf, random.nextInt(size), random.nextInt(256));
@@ -108,8 +108,8 @@ public final class ModelTest {
     return Character.toString("abltnd".charAt(random.nextInt(6)));
   }
 
-  private void call(String name, int... a) throws Exception {
-    if (failed || story.size() >= 512) return;
+  private long call(String name, int... a) throws Exception {
+    if (failed || story.size() >= MOST_CALLS) return 0;
     Class<?>[] types = new Class<?>[a.length];
     Object[] values = new Object[a.length];
     for (int i = 0; i < a.length; i++) {
@@ -128,5 +128,6 @@ public final class ModelTest {
       text.append(", the model answers ").append(want);
     }
     story.add(text.toString());
+    return got;
   }
 }

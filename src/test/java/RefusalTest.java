@@ -11,7 +11,7 @@ import java.util.Set;
  * (the seeds are fixed), and both must answer alike all the same, to the end.
  */
 public final class RefusalTest {
-  private static final int RUNS = 300, CALLS = 400;
+  private static final int RUNS = 600, CALLS = 200;
   private static final Set<String> QUESTIONS = Set.of("of", "later", "sleeps", "often", "blue", "keeps", "turnings",
       "beds", "deal", "out", "where", "stays", "meet", "darkest", "judge", "howBad", "thawed", "which", "share",
       "drawn", "led", "trace", "element", "taken", "count");
@@ -36,7 +36,7 @@ public final class RefusalTest {
       test.go(methods);
       refused += test.refused;
     }
-    Due.is("many calls were refused", 1, refused > 20 * RUNS ? 1 : 0);
+    Due.is("many calls were refused", 1, refused > 10 * RUNS ? 1 : 0);
     Due.end();
   }
 
@@ -95,7 +95,7 @@ public final class RefusalTest {
     for (int shelf = 0; shelf < 6; shelf++) {
       same("taken", more.taken(shelf, 0), less.taken(shelf, 0));
       same("put", more.put(shelf, 99, 0), less.put(shelf, 99, 0));
-      for (int i = 0; i < 60; i++) same("element", more.element(shelf, i), less.element(shelf, i));
+      for (int i = 0; i < 12; i++) same("element", more.element(shelf, i), less.element(shelf, i));
     }
     same("redo", more.redo(), less.redo());
     for (int i = 0; i < 42; i++) same("undo", more.undo(), less.undo());

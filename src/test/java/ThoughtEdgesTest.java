@@ -1,3 +1,5 @@
+import java.util.Random;
+
 /** The edges that section 2 of the document names, each sentence with a method of its own, in the document's order. */
 public final class ThoughtEdgesTest {
   private static final int BAD = NightLetIn.BAD, NOT = NightLetIn.NOT, STATE = NightLetIn.STATE;
@@ -34,6 +36,7 @@ public final class ThoughtEdgesTest {
     dealLeastToTheFirst();
     dealWhereTheyLie();
     dealKth();
+    dealByEveryAmount();
     Due.end();
   }
 
@@ -493,5 +496,50 @@ public final class ThoughtEdgesTest {
     none.boy(0);
     Due.is("no barns", 0, none.deal(50, -1));
     Due.is("no barn 0", BAD, none.deal(50, 0));
+  }
+
+  /** DEAL against every way to deal v out to three barns, of which one may be blue. */
+  private static void dealByEveryAmount() {
+    Random random = new Random(3);
+    for (int run = 0; run < 300; run++) {
+      NightLetIn x = new NightLetIn();
+      for (int barn = 0; barn < 3; barn++) x.barn(barn, random.nextInt(100));
+      int blue = random.nextInt(6);
+      if (blue < 3) x.mend(blue, 1, 7);
+      int[] needs = random.ints(random.nextInt(9), 0, 9).toArray();
+      int[] places = random.ints(needs.length, -1, 3).toArray();
+      for (int boy = 0; boy < needs.length; boy++) {
+        Due.boyIn(x, needs[boy], places[boy]);
+        if (places[boy] == blue) needs[boy] = 1000;
+      }
+      int v = random.nextInt(31);
+      int[] best = bestDeal(needs, places, v);
+      Due.is("how many by " + v + " in run " + run, best[3], x.deal(v, -1));
+      for (int barn = 0; barn < 3; barn++) Due.is("barn " + barn + " in run " + run, best[barn], x.deal(v, barn));
+    }
+  }
+
+  /** What three barns get, and how many sleep then; the first one found stays, and they are tried in their order. */
+  private static int[] bestDeal(int[] needs, int[] places, int v) {
+    int[] best = {0, 0, 0, -1};
+    for (int first = 0; first <= v; first++) {
+      for (int second = 0; first + second <= v; second++) {
+        for (int third = 0; first + second + third <= v; third++) {
+          int sleep = asleep(needs, places, 0, first) + asleep(needs, places, 1, second)
+              + asleep(needs, places, 2, third);
+          if (sleep > best[3]) best = new int[] {first, second, third, sleep};
+        }
+      }
+    }
+    return best;
+  }
+
+  private static int asleep(int[] needs, int[] places, int barn, int night) {
+    int lying = 0, sleep = 0;
+    for (int place : places) if (place == barn) lying++;
+    for (int boy = 0; boy < needs.length; boy++) {
+      if (places[boy] == barn && night / lying >= needs[boy]) sleep++;
+    }
+    return sleep;
   }
 }
