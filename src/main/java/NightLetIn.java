@@ -1238,6 +1238,8 @@ public final class NightLetIn {
         private static final int[] SIDE_X = {0, 1, 0, -1};
         private static final int[] SIDE_Y = {-1, 0, 1, 0};
         private static final int OUT = -1;
+        /** More light than all lamps can give a cell. */
+        private static final int TOO_LIGHT = 1000;
 
         final int[] light = new int[CELLS];
         /** Where it is behind so many hours, as long as these are less than hours. */
@@ -1281,7 +1283,7 @@ public final class NightLetIn {
 
         private int nextOf(int cell, int before) {
             int best = OUT;
-            int least = Integer.MAX_VALUE;
+            int least = TOO_LIGHT;
             for (int side = 0; side < SIDE_X.length; side++) {
                 int next = beside(cell, side);
                 int lit = next == OUT ? 0 : lightOf(next);

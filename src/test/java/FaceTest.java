@@ -11,6 +11,7 @@ import java.util.List;
 import java.util.Random;
 import java.util.Set;
 import java.util.TreeSet;
+import java.util.regex.Matcher;
 import java.util.regex.Pattern;
 
 /** The public face, some rules of LANGUAGE.md that can be seen from outside, and the room that calls take. */
@@ -28,6 +29,7 @@ public final class FaceTest {
     methods();
     fields();
     words();
+    library();
     room();
     oddArguments();
     Due.end();
@@ -100,6 +102,19 @@ public final class FaceTest {
       if (lines[i].matches(" {4}( {4})?\\}") && i - from > 60) fail("a method of more than 60 lines ends at " + (i + 1));
       if (lines[i].chars().anyMatch(c -> c > 126)) fail("line " + (i + 1) + " has another sign than ASCII");
     }
+  }
+
+  /** What stands behind the name of a class of the library: rule 4 leaves no more (DOC.md itself names Long.MIN_VALUE). */
+  private static void library() throws Exception {
+    Set<String> left = Set.of("Arrays.fill", "System.arraycopy", "Math.max", "Math.min", "Math.abs", "Integer.bitCount",
+        "Long.MIN_VALUE");
+    String text = Files.readString(Path.of("src/main/java/NightLetIn.java"));
+    text = text.replaceAll("(?s)/\\*.*?\\*/", " ").replaceAll("//[^\n]*", " ");
+    text = text.replaceFirst("import java\\.util\\.Arrays;", " ");
+    if (text.contains("import ")) fail("NightLetIn.java imports more than Arrays");
+    Matcher used = Pattern.compile("\\b(Arrays|System|Math|Integer|Long|Short|Byte|Character|Boolean|String)\\.\\w+")
+        .matcher(text);
+    while (used.find()) if (!left.contains(used.group())) fail("NightLetIn.java uses " + used.group());
   }
 
   /** A call makes nothing: what a run takes is what its object takes. */
